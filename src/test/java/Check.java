@@ -50,7 +50,7 @@ final class Check {
 
     static void add(TypedAmounts x, String text) {
         int i = 0;
-        while (i < text.length()) {
+        for (int call = 0; call < 60 && i < text.length(); call++) {
             int four = 0;
             int taken = 0;
             for (int place = 0; place < 4; place++) {

@@ -93,10 +93,21 @@ public final class LanguageTest {
             Check.due("the source has " + rule, found.find(), false);
         }
         Check.due("joins texts by +", Pattern.compile("\"\\s*\\+|\\+\\s*\"").matcher(code).find(), false);
-        int since = 0;
-        for (String line : text.split("\n")) {
-            since = line.matches(" {4}( {4})?\\}") ? 0 : since + 1;
-            Check.due("a method of more than sixty lines ends at " + line, since > 75, false);
+        methodsAreShort(text.split("\n"));
+    }
+
+    private static void methodsAreShort(String[] lines) {
+        Pattern head = Pattern.compile("( ++)(?=[A-Z]\\w*\\(|(?:public|private|static|int|long|boolean|void|String|Land) ).*\\(.*\\) \\{");
+        for (int i = 0; i < lines.length; i++) {
+            Matcher found = head.matcher(lines[i]);
+            if (!found.matches()) {
+                continue;
+            }
+            int end = i;
+            while (end < lines.length && !lines[end].equals(found.group(1) + "}")) {
+                end++;
+            }
+            Check.due("more than sixty lines from " + lines[i].trim(), end - i + 1 > 60, false);
         }
     }
 }

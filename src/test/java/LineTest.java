@@ -64,7 +64,7 @@ public final class LineTest {
         Check.due("keys of four", x.keys('.' << 24 | '7' << 16 | '8' << 8 | '9'), 10);
         Check.due("value", x.value(0, 0), 123456789000L);
         Check.due("keys above 127", x.keys(0xffffffff), 14);
-        while (x.count(1) < 58) {
+        for (int i = 0; i < 11; i++) {
             x.keys('x' << 24 | 'x' << 16 | 'x' << 8 | 'x');
         }
         Check.due("58", x.count(1), 58);
@@ -88,6 +88,8 @@ public final class LineTest {
         Check.due("undo 6", x.undo(6), -1);
         Check.due("undo greatest", x.undo(Integer.MAX_VALUE), -1);
         Check.due("all stay", x.value(0, 0), 12345000000L);
+        Check.due("undo 0", x.undo(0), 5);
+        Check.due("still all stay", x.value(0, 0), 12345000000L);
         Check.due("undo 2", x.undo(2), 3);
         Check.due("three stay", x.value(0, 0), 123000000L);
         Check.due("undo all", x.undo(3), 0);
