@@ -3,8 +3,16 @@ final class Check {
     static final long LEAST = Long.MIN_VALUE;
     private static int calls = 0;
     private static int wrong = 0;
+    private static int sentences = 0;
+    private static String sentence = "";
 
     private Check() {
+    }
+
+    /** The answers from here on are for this sentence of the document, told with its own words. */
+    static void sentence(String where, String words) {
+        sentences++;
+        sentence = "[" + where + ": " + words + "] ";
     }
 
     static void due(String what, long got, long want) {
@@ -12,7 +20,7 @@ final class Check {
         if (got != want) {
             wrong++;
             if (wrong <= 40) {
-                System.out.println(what + " answered " + got + ", due is " + want);
+                System.out.println(sentence + what + " answered " + got + ", due is " + want);
             }
         }
     }
@@ -26,13 +34,14 @@ final class Check {
         if (!got.equals(want)) {
             wrong++;
             if (wrong <= 40) {
-                System.out.println(what + " answered \"" + got + "\", due is \"" + want + "\"");
+                System.out.println(sentence + what + " answered \"" + got + "\", due is \"" + want + "\"");
             }
         }
     }
 
     static void end() {
-        System.out.println(calls + " answers, " + wrong + " of them not as due");
+        String of = sentences == 0 ? "" : " for " + sentences + " sentences";
+        System.out.println(calls + " answers" + of + ", " + wrong + " of them not as due");
         if (wrong != 0) {
             System.exit(1);
         }
