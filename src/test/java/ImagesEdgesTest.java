@@ -11,6 +11,7 @@ public final class ImagesEdgesTest {
         asItIsNow();
         otherImagesStay();
         boundsOfEachKind();
+        eachLand();
         Check.end();
     }
 
@@ -192,6 +193,36 @@ public final class ImagesEdgesTest {
             Check.due("above", x.value(0, kind), Check.LEAST);
             x.again(1);
             Check.due("within again", x.value(0, kind), values[kind]);
+        }
+    }
+
+    /** Six lands, then six others in their places, then the first six again. */
+    private static void eachLand() {
+        Check.sentence("Promise 24", "All that is as image k has it");
+        TypedAmounts x = new TypedAmounts();
+        x.image(0);
+        addSix(x, 'A');
+        x.image(1);
+        x.again(0);
+        addSix(x, 'K');
+        x.image(2);
+        areSix(x, 'K');
+        x.again(1);
+        areSix(x, 'A');
+        x.again(2);
+        areSix(x, 'K');
+    }
+
+    private static void addSix(TypedAmounts x, char first) {
+        for (int i = 0; i < 6; i++) {
+            Check.due("land " + i, new OneLand().mark("AB" + (char) (first + i), false).addTo(x), i);
+        }
+    }
+
+    private static void areSix(TypedAmounts x, char first) {
+        for (int i = 0; i < 6; i++) {
+            x.show(i, 1, 7000000, 0);
+            Check.due("land " + i + " from " + first, Check.display(x), "AB" + (char) (first + i) + "7");
         }
     }
 }

@@ -14,6 +14,8 @@ public final class LineEdgesTest {
         keysOverSixty();
         undoEdges();
         undoLastBytes();
+        undoLeavesNoTrace();
+        shorterLineLeavesNoTrace();
         countEdges();
         fiveHundredAndTwelveCalls();
         Check.end();
@@ -188,6 +190,45 @@ public final class LineEdgesTest {
         Check.due("none is left", x.good(0, 0), 0);
         Check.due("the next one is the first", x.key('7'), 1);
         Check.due("value", x.value(0, 0), 7000000);
+    }
+
+    private static void alike(String when, TypedAmounts x, TypedAmounts fresh) {
+        for (int kind = 0; kind < 3; kind++) {
+            Check.due("value " + when, x.value(0, kind), fresh.value(0, kind));
+            Check.due("open " + when, x.open(0, kind), fresh.open(0, kind));
+            Check.due("good " + when, x.good(0, kind), fresh.good(0, kind));
+        }
+        Check.due("spoken " + when, x.spoken(), fresh.spoken());
+    }
+
+    /** What was undone is not read as if it still stood behind THE LINE. */
+    private static void undoLeavesNoTrace() {
+        Check.sentence("Promise 5", "The last n bytes of THE LINE are no more");
+        String[] texts = {"1,234,567.890123", "(1,234)", "(ABC 12,345.67)", "31/12/1999", "twenty one"};
+        for (String text : texts) {
+            OneLand land = new OneLand().minus(2);
+            TypedAmounts x = land.with(text);
+            for (int left = text.length() - 1; left >= 0; left--) {
+                x.undo(1);
+                alike("of '" + text + "' with " + left + " bytes", x, land.with(text.substring(0, left)));
+            }
+        }
+    }
+
+    private static void shorterLineLeavesNoTrace() {
+        Check.sentence("Promise 14", "What is SHOWN becomes THE LINE");
+        TypedAmounts x = new OneLand().with("9,999,999.999999");
+        x.show(0, 0, 1000000, 0);
+        x.take();
+        alike("of a shorter taken line", x, new OneLand().with("1"));
+        Check.sentence("Promise 17", "THE LINE becomes a row, and is empty then");
+        x = new OneLand().with("1,234");
+        x.row();
+        alike("behind a row", x, new OneLand().made());
+        x.clear();
+        x.key('1');
+        x.row();
+        Check.due("a shorter row in its place", x.sum(0, 0), 1000000);
     }
 
     private static void countEdges() {

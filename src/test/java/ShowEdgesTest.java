@@ -152,6 +152,10 @@ public final class ShowEdgesTest {
         new OneLand().shows(2, 4 * 365, 0, "31/12/0004");
         new OneLand().shows(2, 36523, 0, "31/12/0100");
         new OneLand().shows(2, 36524, 0, "01/01/0101");
+        new OneLand().shows(2, 73047, 0, "31/12/0200");
+        new OneLand().shows(2, 73048, 0, "01/01/0201");
+        new OneLand().shows(2, 109571, 0, "31/12/0300");
+        new OneLand().shows(2, 109572, 0, "01/01/0301");
         new OneLand().shows(2, 146096, 0, "31/12/0400");
         new OneLand().shows(2, 146097, 0, "01/01/0401");
         new OneLand().shows(2, 364876, 0, "31/12/0999");
