@@ -3,6 +3,7 @@ public final class LandEdgesTest {
     private static final int ABC = Check.mark("ABC");
 
     public static void main(String[] args) {
+        fromZeroOn();
         atMostSix();
         numbersOfLands();
         refusedLandIsNone();
@@ -21,14 +22,21 @@ public final class LandEdgesTest {
         Check.end();
     }
 
-    private static void atMostSix() {
+    private static void fromZeroOn() {
         Check.sentence("Term 1", "LANDS, at most 6, from 0 on");
         TypedAmounts x = new TypedAmounts();
         for (int i = 0; i < 6; i++) {
             Check.due("lands ahead of land " + i, x.count(0), i);
             Check.due("land " + i, new OneLand().addTo(x), i);
         }
+    }
+
+    private static void atMostSix() {
         Check.sentence("Promise 2", "NONE: there are 6");
+        TypedAmounts x = new TypedAmounts();
+        for (int i = 0; i < 6; i++) {
+            new OneLand().addTo(x);
+        }
         for (int i = 0; i < 3; i++) {
             Check.due("one land more", new OneLand().addTo(x), -1);
             Check.due("lands", x.count(0), 6);

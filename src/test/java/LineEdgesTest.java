@@ -5,9 +5,11 @@ public final class LineEdgesTest {
 
     public static void main(String[] args) {
         newObject();
+        noImages();
         newBounds();
         lineOfSixty();
         keyOfAByte();
+        keyOfAnotherNumber();
         keyOverSixty();
         keysAheadOfZero();
         keysHighestFirst();
@@ -15,7 +17,8 @@ public final class LineEdgesTest {
         undoEdges();
         undoLastBytes();
         undoLeavesNoTrace();
-        shorterLineLeavesNoTrace();
+        takeLeavesNoTrace();
+        rowLeavesNoTrace();
         countEdges();
         fiveHundredAndTwelveCalls();
         Check.end();
@@ -42,6 +45,9 @@ public final class LineEdgesTest {
             Check.due("other", x.other(0, 0, kind, 0, 0), Check.LEAST);
         }
         Check.due("the first row", x.row(), 0);
+    }
+
+    private static void noImages() {
         Check.sentence("Promise 1", "no images");
         for (int k = -1; k <= 3; k++) {
             Check.due("again " + k, new TypedAmounts().again(k), false);
@@ -90,6 +96,9 @@ public final class LineEdgesTest {
             long due = digit ? (10 + sign - '0') * 1000000L : is ? Check.LEAST : 1000000;
             Check.due("value with " + sign, x.value(0, 0), due);
         }
+    }
+
+    private static void keyOfAnotherNumber() {
         Check.sentence("Promise 3", "or another number");
         int[] others = {-1, 256, -256, '1' | 256, '1' | 65536, '1' - 256, Integer.MAX_VALUE, Integer.MIN_VALUE};
         for (int sign : others) {
@@ -215,14 +224,17 @@ public final class LineEdgesTest {
         }
     }
 
-    private static void shorterLineLeavesNoTrace() {
+    private static void takeLeavesNoTrace() {
         Check.sentence("Promise 14", "What is SHOWN becomes THE LINE");
         TypedAmounts x = new OneLand().with("9,999,999.999999");
         x.show(0, 0, 1000000, 0);
         x.take();
         alike("of a shorter taken line", x, new OneLand().with("1"));
+    }
+
+    private static void rowLeavesNoTrace() {
         Check.sentence("Promise 17", "THE LINE becomes a row, and is empty then");
-        x = new OneLand().with("1,234");
+        TypedAmounts x = new OneLand().with("1,234");
         x.row();
         alike("behind a row", x, new OneLand().made());
         x.clear();

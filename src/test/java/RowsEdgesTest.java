@@ -18,6 +18,7 @@ public final class RowsEdgesTest {
         fitByBounds();
         fitOfNoKind();
         firstMisfit();
+        noMisfit();
         misfitByBounds();
         misfitOfNoneSuch();
         sumWithoutRows();
@@ -243,8 +244,11 @@ public final class RowsEdgesTest {
         paste(x, "1/1/0001");
         paste(x, "31/4/0001");
         Check.due("no day", x.misfit(0, 2), 1);
+    }
+
+    private static void noMisfit() {
         Check.sentence("Promise 20", "NONE if there is none such (of any).");
-        x.clear();
+        TypedAmounts x = new OneLand().made();
         Check.due("without rows", x.misfit(0, 0), -1);
         paste(x, "1");
         Check.due("all are READ", x.misfit(0, 0), -1);
