@@ -51,6 +51,7 @@ public final class LanguageTest {
         for (Method method : TypedAmounts.class.getDeclaredMethods()) {
             boolean isPrivate = Modifier.isPrivate(method.getModifiers());
             Check.due(method + " bears a public name", isPrivate && openNames.contains(method.getName()), false);
+            Check.due(method + " takes more than seven", isPrivate && method.getParameterCount() > 7, false);
         }
         for (Class<?> inside : TypedAmounts.class.getDeclaredClasses()) {
             for (Method method : inside.getDeclaredMethods()) {

@@ -75,7 +75,7 @@ public final class WordsEdgesTest {
     }
 
     private static void upToNineteen() {
-        Check.sentence("Term 4", "'one' .. 'nineteen'");
+        Check.sentence("Term 4", "'one' .. 'nineteen', or 'twenty'");
         String[] names = ("one two three four five six seven eight nine ten eleven twelve thirteen fourteen fifteen sixteen "
                 + "seventeen eighteen nineteen").split(" ");
         for (int n = 1; n <= 19; n++) {
